@@ -293,6 +293,7 @@ public final class PromisesTest {
         faultIs("1=0", 1);
         faultIs("1/2=0", 1);
         faultIs("12345=0000", 4);
+        faultIs("12340=0000", 4);
         faultIs("12/345=00", 5);
         faultIs("123/45=000", 6);
         faultIs("12/=00", 3);
@@ -332,7 +333,9 @@ public final class PromisesTest {
         promise = 11;
         HoleMoved x = on("12/03=01pb");
         x.dig(0);
+        x.image(0);
         x.image(1);
+        x.image(2);
         long before = x.digest();
         due("ground(4)", x.ground(4), BAD);
         due("ground(-1)", x.ground(-1), BAD);
@@ -348,13 +351,28 @@ public final class PromisesTest {
         for (int what = 0; what < counts.length; what++) {
             due("count(" + what + ")", x.count(what), counts[what]);
         }
-        found(x, "images are gone", x.on(1), NOTHING);
+        for (int k = 0; k < 3; k++) {
+            found(x, "images are gone", x.on(k), NOTHING);
+        }
+        told(x, "whose the first is now", x.cell(0, 1), 2);
         due("ground(0)", x.ground(0), 4);
         due("count(2)", x.count(2), 1);
         write(x, 1, "11=00");
         due("no laws", x.ground(1), 2);
         due("law(0)", x.law(0), BAD);
         due("count(5)", x.count(5), 0);
+        write(x, 1, "111/100=000");
+        x.ground(1);
+        due("an L", x.count(2), 1);
+        write(x, 1, "11/11/00=00");
+        x.ground(1);
+        due("the same CELLS by two columns", x.count(2), 1);
+        write(x, 1, "110/011=000");
+        x.ground(1);
+        due("{0, 1, 4, 5} by three columns", x.count(2), 1);
+        write(x, 1, "11/00/11=00");
+        x.ground(1);
+        due("{0, 1, 4, 5} by two columns", x.count(2), 2);
     }
 
     private static void cellsAndLaws() {
@@ -683,6 +701,27 @@ public final class PromisesTest {
         x.dig(10);
         x.fill(2);
         due("an L mirrored", x.same(0, 0, 0, 0), 0);
+        for (int quarters = 1; quarters <= 3; quarters += 2) {
+            x = on("1000/1000/1100=0000ts");
+            x.image(0);
+            // 1 1 1 / 1 and 0 0 1 / 1 1 1
+            int[] to = quarters == 1 ? new int[] {0, 1, 2, 4} : new int[] {2, 4, 5, 6};
+            int[] from = quarters == 1 ? new int[] {8, 9} : new int[] {0, 8, 9};
+            for (int c : to) {
+                x.dig(c);
+            }
+            for (int c : from) {
+                x.fill(c);
+            }
+            if (quarters == 1) {
+                x.fill(0);
+                x.fill(4);
+            } else {
+                x.fill(4);
+            }
+            due("an L turned by quarters: " + quarters, x.same(0, 0, 0, 0), 1);
+            due("an L pushed only", x.same(1, 0, 0, 0), 0);
+        }
         // Turned, it would not even lie on the ground.
         x = on("111/111/000=000t");
         x.image(0);
@@ -752,6 +791,11 @@ public final class PromisesTest {
         due("less by", x.asked(), -1);
         due("shovels(0)", x.shovels(0), 0);
         due("as much", x.asked(), 0);
+        x.dig(0);
+        due("the first CELL", x.shovels(0), 1);
+        due("more by", x.asked(), 1);
+        due("suspect(0)", x.suspect(0), 0);
+        x.undo(0);
         due("shovels(3)", x.shovels(3), BAD);
         due("shovels(-1)", x.shovels(-1), BAD);
         found(x, "shovels(2)", x.shovels(2), NOTHING);
@@ -842,6 +886,9 @@ public final class PromisesTest {
         x = on("151/111/111=000");
         due("two of 1 rather than one of 5", x.part(0), 2);
         due("which", x.asked(), 1 << 3 | 1 << 7);
+        x = on("151/111/151=000");
+        due("three around one of 5", x.part(0), 3);
+        due("which", x.asked(), 1 | 1 << 2 | 1 << 4);
         x = on("11/00=00");
         due("by no 3", x.part(0), NONE);
         due("asked() stays", x.asked(), 0);
@@ -903,6 +950,12 @@ public final class PromisesTest {
         x.dig(1);
         due("the CART's EARTH does not matter", x.steal(0, 0, 0, 0, 0), 2);
         rowIs(x, 0, 101, 101);
+        x = on("55/00=00b");
+        x.dig(2);
+        x.image(0);
+        x.undo(0);
+        due("none is deeper than 5", x.steal(0, 0, 0, 0, 0), 1);
+        rowIs(x, 0, 2);
         x = on("500/001=010sb");
         x.image(0);
         due("dug, and what is beside it filled", x.steal(0, 0, 0, 1, 2), 2);
