@@ -543,7 +543,7 @@ public final class HoleMoved {
             return found(wrong);
         }
         int all = 0;
-        for (int i = 0; i < now.holeCount; i++) {
+        for (int i = 0; i < now.holeCount && i < owed.length; i++) {
             owed[i] = now.volumeOf(now.bitsOf(i));
             all += owed[i];
         }
@@ -875,7 +875,7 @@ public final class HoleMoved {
         }
         int ways = 0;
         int size = row.get(heap);
-        for (int i = 0; i < now.holeCount; i++) {
+        for (int i = 0; i < now.holeCount && i < owed.length; i++) {
             if (owed[i] >= size) {
                 owed[i] -= size;
                 ways += waysFrom(row, heap + 1);
@@ -938,7 +938,7 @@ public final class HoleMoved {
 
         void renew(int n, int v) {
             size = Math.max(0, Math.min(n, places.length));
-            for (int i = 0; i < size; i++) {
+            for (int i = 0; i < size && i < places.length; i++) {
                 places[i] = v;
             }
         }
@@ -955,7 +955,7 @@ public final class HoleMoved {
 
         long sum() {
             long sum = 0;
-            for (int i = 0; i < size; i++) {
+            for (int i = 0; i < size && i < places.length; i++) {
                 sum += places[i];
             }
             return sum;
@@ -963,7 +963,7 @@ public final class HoleMoved {
 
         long digestOnto(long before) {
             long h = 31 * before + size;
-            for (int i = 0; i < size; i++) {
+            for (int i = 0; i < size && i < places.length; i++) {
                 h = 31 * h + places[i];
             }
             return h;
@@ -1323,7 +1323,7 @@ public final class HoleMoved {
 
         int holeAt(int c) {
             for (int i = 0; i < holeCount; i++) {
-                if ((holes[i] >>> c & 1) != 0) {
+                if ((bitsOf(i) >>> c & 1) != 0) {
                     return i;
                 }
             }
@@ -1353,7 +1353,7 @@ public final class HoleMoved {
         int largestHole() {
             int largest = 0;
             for (int i = 0; i < holeCount; i++) {
-                largest = Math.max(largest, Integer.bitCount(holes[i]));
+                largest = Math.max(largest, Integer.bitCount(bitsOf(i)));
             }
             return largest;
         }
@@ -1386,7 +1386,7 @@ public final class HoleMoved {
         }
     }
 
-    /** A LAW of a KIND: whether two HOLES are the SAME, and what it tells of the HOLES there are. */
+    /** A LAW of a KIND: whether two HOLES are the SAME, and what it tells of those there are. */
     private static final class Law {
         private static final int UNTURNED = 0, QUARTERS = 3;
 
@@ -1518,7 +1518,7 @@ public final class HoleMoved {
         }
 
         void perform(Ground now, int bits, int by, int earth) {
-            if (areFull()) {
+            if (size < 0 || areFull()) {
                 return;
             }
             cells[size] = bits;
@@ -1531,7 +1531,7 @@ public final class HoleMoved {
         /** Takes back the DEEDS from n on, the latest first, and tells how many. */
         int takeBack(Ground now, int n) {
             int taken = 0;
-            for (int d = size - 1; d >= n && d >= 0; d--) {
+            for (int d = Math.min(size, DEEDS_MOST) - 1; d >= n && d >= 0; d--) {
                 change(now, cells[d], -depths[d], -earths[d]);
                 taken++;
             }
