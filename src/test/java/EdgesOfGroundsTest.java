@@ -52,6 +52,13 @@ public final class EdgesOfGroundsTest {
         fault("12=0 1p", 4);
         fault("  1 2=01p", 3);
         fault("1234 =0123", 4);
+        Probe.says(10, "a blank where something is due, though nothing but blanks comes behind it");
+        fault("1 ", 1);
+        fault("12 ", 2);
+        fault("12/ ", 3);
+        fault("12/1  ", 4);
+        fault("12= ", 3);
+        fault("  12=0   ", 6);
         Probe.says(10, "behind blanks behind the LAWS anything else: its place");
         fault("12=01 p", 6);
         fault("12=01p p", 7);

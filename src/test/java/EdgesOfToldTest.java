@@ -3,6 +3,9 @@ import java.util.Arrays;
 /** The edges that the document names for what is told: promises 40 to 46, and what all calls share. */
 public final class EdgesOfToldTest {
     public static void main(String[] args) {
+        constants();
+        refusedChangesNothing();
+        lastCall();
         asked();
         askedOfThoseThatTell();
         askedOfThoseThatDoNot();
@@ -17,6 +20,49 @@ public final class EdgesOfToldTest {
         digestOfMissing();
         digestChangesNothing();
         Probe.end("count BAD", "findings BAD");
+    }
+
+    private static void constants() {
+        Probe.says(1, "BAD -1, FULL -2, FINDING -3, STATE -4, SPENT -6, NONE -9");
+        Probe.due("BAD", HoleMoved.BAD, -1);
+        Probe.due("FULL", HoleMoved.FULL, -2);
+        Probe.due("FINDING", HoleMoved.FINDING, -3);
+        Probe.due("STATE", HoleMoved.STATE, -4);
+        Probe.due("SPENT", HoleMoved.SPENT, -6);
+        Probe.due("NONE", HoleMoved.NONE, -9);
+    }
+
+    /** Two objects are told the same, but one of them is refused much besides: behind it they answer alike. */
+    private static void refusedChangesNothing() {
+        Probe.says(1, "what is refused changes nothing but finding(), findings(), not what can't be seen at once, either");
+        Probe refused = Probe.on("1205/0030=0120prsbtd").does("image(0)", "dig(3)", "fill(1)", "rain(7, 9)", "image(2)", "dig(6)");
+        Probe other = Probe.on("1205/0030=0120prsbtd").does("image(0)", "dig(3)", "fill(1)", "rain(7, 9)", "image(2)", "dig(6)");
+        String[] calls = {
+            "row(0, -1)", "row(0, 41)", "lay(0, 0, 9)", "tear(0)", "copy(0, 0, 1, 0, 1)", "mean(0)", "text(0, 61)",
+            "text(0, -1)", "put(0, 20, 9)", "put(1, 0, 9)", "ground(1)", "ground(4)", "cell(8, 0)", "law(6)",
+            "mark(0, 1)", "hole(9, 0)", "dig(8)", "fill(8)", "fill(4)", "rain(13, 1)", "rain(1, 0)", "undo(5)",
+            "undo(-1)", "image(3)", "on(1)", "on(3)", "then(1, 0, 0)", "same(0, 1, 0, 0)", "which(0, 0, 9)",
+            "doubt(6, 0)", "fair(1)", "shovels(1)", "suspect(1)", "carry(9, 0, 0)", "join(0, 0)", "part(9)",
+            "steal(0, 1, 0, 0, 0)", "steal(0, 0, 0, 4, 0)", "share(0, 4)", "heaps(0)", "lies(0)", "day(0)",
+            "grounds(0)", "odds(0, 13)", "gone(0, 9, 0)", "count(10)"};
+        for (String call : calls) {
+            long answer = refused.call(call);
+            Probe.due(call + " is refused", answer < 0 && answer != Probe.NONE ? 1 : 0, 1);
+        }
+        String[] alike = {"digest()", "undo(3)", "digest()", "undo(2)", "digest()", "undo(1)", "digest()", "undo(0)", "digest()",
+            "on(2)", "digest()", "then(0, 0, 0)", "asked()", "then(2, 1, 2)", "asked()", "on(0)", "digest()", "count(7)",
+            "which(5, 2, 0)", "fault(0)", "ground(0)", "digest()", "asked()", "upper()", "lower()"};
+        for (String call : alike) {
+            refused.gives(call, other.call(call));
+        }
+        other.gives("finding()", 0);
+        refused.gives("finding()", Probe.NOTHING);
+    }
+
+    private static void lastCall() {
+        Probe.says(1, "an object is used for at most 512 calls: the last of them");
+        Probe p = Probe.on("12=00");
+        p.times(512 - 7 - 2, "dig(0)").gives("cell(0, 0)", 1).gives("asked()", 5);
     }
 
     private static void asked() {
