@@ -255,6 +255,9 @@ public final class EdgesOfGroundsTest {
         Probe.says(11, "anew: no HOLE, where there were some; some, where there was none");
         p = Probe.on("1010=0000").gives("count(2)", 2).write(1, "0000=0000").gives("ground(1)", 4).gives("count(2)", 0);
         p.bad("hole(0, 0)").tells("cell(0, 2)", Probe.NONE).gives("ground(0)", 4).gives("count(2)", 2).tells("hole(1, 0)", 4);
+        Probe.says(11, "anew: no LAWS, where there were some");
+        p = Probe.on("10=00tr").does("image(0)").write(1, "10=00").gives("ground(1)", 2).gives("count(5)", 0);
+        p.gives("count(6)", 0).bad("law(0)", "mark(0, 1)").does("image(0)").gives("fair(0)", 0);
         Probe.says(11, "anew: ROWS, TEXTS, what was told stay");
         p = Probe.on("12=01").lays(0, 9).does("at(0, 0)", "share(0, 1)", "at(1, 0)").gives("ground(0)", 2);
         p.gives("asked()", 9).gives("upper()", 2).gives("lower()", 3).gives("finding()", 1).gives("findings(1)", 1);
